@@ -447,14 +447,16 @@ public final class LazyPatMatch {
      */
     private boolean matchPattern(int p, int v) {
         tokenCell[p] = v;
-        int next = p;
+        int skipTo = p;
         for (int i = p; i < tokenAfter[p]; i++) {
-            if (i < next) {
+            if (i < skipTo) {
                 continue;
             }
             int kind = tokenKind[i];
             int c = tokenCell[i];
-            next = kind == P_LAZY ? tokenAfter[i] : i + 1;
+            if (kind == P_LAZY) {
+                skipTo = tokenAfter[i];
+            }
             if ((kind == P_BANG || kind == P_CON) && !force(c)) {
                 return false;
             }

@@ -22,6 +22,7 @@ public final class MatchTest {
             errorsInAlternatives();
             errorInPatternsAfterGuards();
             clausesInOrder();
+            fullProgram();
             constants();
             theProgramStays();
         }
@@ -221,6 +222,31 @@ public final class MatchTest {
             b.run("clause for " + tag, RES_VALUE, tag);
             b.outcome("clause for " + tag, 7 - tag, 0, tags[7 - tag], results[7 - tag]);
         }
+    }
+
+    /** Eight clauses of eight tokens with two alternatives each: all the room that there is. */
+    private static void fullProgram() {
+        Writer w = b.program(1);
+        for (int k = 0; k < 8; k++) {
+            if (k > 0) {
+                w.clause();
+            }
+            w.con(6).bang().con(4).var(k).bang().bang().lazy().wild().when(k, k, k).when(k, 7, 8);
+        }
+        w.compile();
+        Checks.due("tokens", b.x.progInfo(LazyPatMatch.PI_TOKENS), LazyPatMatch.MAX_TOKENS);
+        Checks.due("alternatives", b.x.progInfo(LazyPatMatch.PI_ALTS), LazyPatMatch.MAX_ALTS);
+        b.heap(Bench.thunk(6, 0, 0), Bench.thunk(4, 0, 0), Bench.thunk(6, 1, 0), Bench.thunk(7, 0, 1),
+                Bench.thunk(4, 3, 0), Bench.thunk(6, 4, 3), Bench.thunk(3));
+        b.run("clause 6 of a full program", RES_VALUE, 2);
+        b.outcome("clause 6 of a full program", 6, 0, 6, 0);
+        b.log("clause 6 of a full program", 2, 1, 0);
+        b.run("a second alternative", RES_VALUE, 5);
+        b.outcome("a second alternative", 0, 1, 0, -1);
+        b.log("a second alternative", 5, 4, 3);
+        b.run("no clause of a full program", RES_NOMATCH, 6);
+        b.outcome("no clause of a full program", -1, -1, -1, -1);
+        b.log("no clause of a full program", 6);
     }
 
     private static void constants() {
