@@ -14,7 +14,11 @@ final class Bench {
 
     /** A new object whose first clause is started. */
     Writer program(int arity) {
-        x = new LazyPatMatch(arity, 32);
+        return program(arity, 32);
+    }
+
+    Writer program(int arity, int cells) {
+        x = new LazyPatMatch(arity, cells);
         return new Writer(x).clause();
     }
 
@@ -52,12 +56,6 @@ final class Bench {
         int a2 = arguments.length > 2 ? arguments[2] : 0;
         Checks.due(what + ": run in mode " + mode, x.run(mode, arguments[0], a1, a2), kind);
         Checks.due(what + ": kind", x.last(LazyPatMatch.LAST_KIND), kind);
-    }
-
-    void refusedRun(String what, int wrongMode, int a0, int a1, int a2) {
-        String before = Snapshot.of(x);
-        Checks.due(what, x.run(wrongMode, a0, a1, a2), LazyPatMatch.REFUSED);
-        Snapshot.same(what, before, Snapshot.of(x));
     }
 
     void outcome(String what, int clause, int alt, int tag, int cell) {

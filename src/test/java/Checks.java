@@ -2,15 +2,33 @@
 final class Checks {
     private static int checked = 0;
     private static int wrong = 0;
+    private static String sentence = "";
+    private static int checkedBefore = 0;
 
     private Checks() {
+    }
+
+    /** What is looked at from here on shows that this sentence of the document holds. */
+    static void sentence(String words) {
+        sentenceEnds();
+        sentence = words;
+        checkedBefore = checked;
+    }
+
+    /** Guards the tests themselves: a sentence for which nothing was looked at is not tested. */
+    private static void sentenceEnds() {
+        if (!sentence.isEmpty() && checked == checkedBefore) {
+            wrong++;
+            System.out.println("nothing was looked at for: " + sentence);
+        }
     }
 
     static void due(String call, long got, long want) {
         checked++;
         if (got != want) {
             wrong++;
-            System.out.println(call + " answered " + got + ", due is " + want);
+            String place = sentence.isEmpty() ? "" : "[" + sentence + "] ";
+            System.out.println(place + call + " answered " + got + ", due is " + want);
         }
     }
 
@@ -28,6 +46,7 @@ final class Checks {
 
     /** Ends the test: exit code 1 if an answer was wrong, or if nothing was looked at. */
     static void end() {
+        sentenceEnds();
         System.out.println(checked + " answers looked at, " + wrong + " not as due");
         if (wrong != 0 || checked == 0) {
             System.exit(1);

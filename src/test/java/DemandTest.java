@@ -1,4 +1,4 @@
-/** Promise 9: DEMAND and irrefutable patterns, in both modes; promise 10: last and logAt. */
+/** Promise 9: DEMAND and irrefutable patterns, in both modes. */
 public final class DemandTest {
     private static final int RES_VALUE = LazyPatMatch.RES_VALUE;
     private static final int RES_NOMATCH = LazyPatMatch.RES_NOMATCH;
@@ -22,7 +22,6 @@ public final class DemandTest {
             onlyTheLaziesAboveTheVariable();
             lazyFailureInALaterAlternative();
             laterRuns();
-            selectorsOutside();
         }
         Checks.end();
     }
@@ -207,22 +206,5 @@ public final class DemandTest {
         b.run("first run again", RES_VALUE, 1);
         b.outcome("first run again", 0, 0, 3, 0);
         b.log("first run again");
-    }
-
-    private static void selectorsOutside() {
-        b.program(1).con(5).bang().var(0).gives(0).compile();
-        b.heap(Bench.thunk(1), Bench.thunk(5, 0, 0));
-        b.run("a log of two", RES_VALUE, 1);
-        String before = Snapshot.of(b.x);
-        int[] selectors = {-1, 6, Integer.MIN_VALUE, Integer.MAX_VALUE};
-        for (int what : selectors) {
-            Checks.due("last(" + what + ")", b.x.last(what), -1);
-        }
-        int[] entries = {-1, 2, 31, 32, Integer.MIN_VALUE, Integer.MAX_VALUE};
-        for (int i : entries) {
-            Checks.due("logAt(" + i + ")", b.x.logAt(i), -1);
-        }
-        b.log("a log of two", 1, 0);
-        Snapshot.same("last and logAt", before, Snapshot.of(b.x));
     }
 }

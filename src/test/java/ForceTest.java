@@ -1,59 +1,18 @@
-/** Promise 9: the refusals of run, and FORCE; each in both modes. */
+/** Promise 9: FORCE, in both modes. */
 public final class ForceTest {
     private static final int RES_VALUE = LazyPatMatch.RES_VALUE;
     private static final int RES_BOTTOM = LazyPatMatch.RES_BOTTOM;
-    private static final int RES_LOOP = LazyPatMatch.RES_LOOP;
 
     private static Bench b;
 
     public static void main(String[] args) {
         for (int mode = LazyPatMatch.MODE_CLAUSES; mode <= LazyPatMatch.MODE_TREE; mode++) {
             b = new Bench(mode);
-            refusals();
-            unusedArguments();
             eachState();
             chains();
-            chainsOfThirtyTwo();
-            loops();
             copies();
         }
         Checks.end();
-    }
-
-    private static void refusals() {
-        Writer w = b.program(3).bang().var(0).bang().var(1).bang().var(2).gives(0);
-        b.heap(Bench.thunk(0), Bench.thunk(1), Bench.thunk(2));
-        b.refusedRun("not compiled", b.mode, 0, 1, 2);
-        w.compile();
-        int[] wrongModes = {-1, 2, Integer.MIN_VALUE, Integer.MAX_VALUE};
-        for (int wrongMode : wrongModes) {
-            b.refusedRun("mode " + wrongMode, wrongMode, 0, 1, 2);
-        }
-        int[] wrongCells = {-1, 3, 32, Integer.MIN_VALUE, Integer.MAX_VALUE};
-        for (int a : wrongCells) {
-            b.refusedRun("a0 is " + a, b.mode, a, 1, 2);
-            b.refusedRun("a1 is " + a, b.mode, 0, a, 2);
-            b.refusedRun("a2 is " + a, b.mode, 0, 1, a);
-        }
-        b.run("three arguments", RES_VALUE, 0, 1, 0);
-        b.log("three arguments", 0, 1);
-        b.refusedRun("a2 is 3 after a run", b.mode, 2, 2, 3);
-        b.refusedRun("mode 2 after a run", 2, 2, 2, 2);
-        b.states("after the refusals", Bench.VALUE, Bench.VALUE, Bench.THUNK);
-        b.x.resetProgram();
-        b.refusedRun("after resetProgram", b.mode, 0, 1, 2);
-    }
-
-    private static void unusedArguments() {
-        b.program(1).var(0).gives(0).compile();
-        b.heap(Bench.thunk(1));
-        b.run("one argument", RES_VALUE, 0, -1, 99);
-        b.refusedRun("a0 is 1", b.mode, 1, 0, 0);
-        b.program(2).wild().var(0).gives(0).compile();
-        b.heap(Bench.thunk(1));
-        b.run("two arguments", RES_VALUE, 0, 0, Integer.MAX_VALUE);
-        b.run("two arguments", RES_VALUE, 0, 0, Integer.MIN_VALUE);
-        b.refusedRun("a1 is 1", b.mode, 0, 1, 0);
     }
 
     private static void eachState() {
@@ -92,57 +51,6 @@ public final class ForceTest {
         b.contents("to BOTTOM", 6, -1, 5, -1);
         b.run("to BOTTOM again", RES_BOTTOM, 5, 6);
         b.log("to BOTTOM again", 5, 4);
-    }
-
-    private static void chainsOfThirtyTwo() {
-        b.program(1).bang().var(0).gives(0).compile();
-        chainFrom(Bench.thunk(3));
-        b.run("to a THUNK", RES_VALUE, 31);
-        b.outcome("to a THUNK", 0, 0, 3, 31);
-        b.log("to a THUNK", thirtyOneToZero());
-        for (int c = 0; c < 32; c++) {
-            b.contents("to a THUNK", c, 3, -1, -1);
-        }
-        chainFrom(Bench.ind(0));
-        b.run("to a loop", RES_LOOP, 31);
-        b.log("to a loop", thirtyOneToZero());
-        b.run("to a loop again", RES_LOOP, 31);
-        b.log("to a loop again", thirtyOneToZero());
-        chainFrom(Bench.bottom());
-        b.run("to BOTTOM", RES_BOTTOM, 31);
-        b.log("to BOTTOM", thirtyOneToZero());
-    }
-
-    /** A full heap: this first cell, and each other one an IND to the one before it. */
-    private static void chainFrom(int[] first) {
-        int[][] cells = new int[32][];
-        cells[0] = first;
-        for (int c = 1; c < 32; c++) {
-            cells[c] = Bench.ind(c - 1);
-        }
-        b.heap(cells);
-    }
-
-    private static int[] thirtyOneToZero() {
-        int[] cells = new int[32];
-        for (int i = 0; i < 32; i++) {
-            cells[i] = 31 - i;
-        }
-        return cells;
-    }
-
-    private static void loops() {
-        b.program(1).bang().wild().gives(8).compile();
-        b.heap(Bench.ind(0), Bench.ind(0), Bench.ind(1));
-        b.run("IND of itself", RES_LOOP, 0);
-        b.outcome("IND of itself", 0, -1, -1, -1);
-        b.log("IND of itself", 0);
-        b.run("a chain to a loop", RES_LOOP, 2);
-        b.log("a chain to a loop", 2, 1, 0);
-        b.states("a chain to a loop", Bench.IND, Bench.IND, Bench.IND);
-        b.contents("a chain to a loop", 2, -1, 1, -1);
-        b.run("the marks are gone", RES_LOOP, 1);
-        b.log("the marks are gone", 1, 0);
     }
 
     /** A cell updated in place has the fields of the cell that it evaluated to. */

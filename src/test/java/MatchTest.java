@@ -10,7 +10,6 @@ public final class MatchTest {
     public static void main(String[] args) {
         for (int mode = LazyPatMatch.MODE_CLAUSES; mode <= LazyPatMatch.MODE_TREE; mode++) {
             b = new Bench(mode);
-            patternsThatForceNothing();
             bangs();
             tags();
             firstFailureStops();
@@ -20,22 +19,12 @@ public final class MatchTest {
             guardsInOrder();
             guardsOfEachTag();
             errorsInAlternatives();
-            errorInPatternsAfterGuards();
             clausesInOrder();
             fullProgram();
             constants();
             theProgramStays();
         }
         Checks.end();
-    }
-
-    private static void patternsThatForceNothing() {
-        b.program(3).wild().var(0).lazy().con(7).wild().wild().gives(9).compile();
-        b.heap(Bench.bottom(), Bench.ind(1), Bench.thunk(0));
-        b.run("nothing forced", RES_VALUE, 0, 1, 2);
-        b.outcome("nothing forced", 0, 0, 1, -1);
-        b.log("nothing forced");
-        b.states("nothing forced", Bench.BOTTOM, Bench.IND, Bench.THUNK);
     }
 
     private static void bangs() {
@@ -189,16 +178,6 @@ public final class MatchTest {
         b.run("a value, then an error", RES_BOTTOM, 0);
         b.outcome("a value, then an error", 0, 0, -1, -1);
         b.log("a value, then an error", 0);
-    }
-
-    /** The alternative of a clause that was left does not show in the next clause. */
-    private static void errorInPatternsAfterGuards() {
-        b.program(2).var(0).wild().when(0, 7, 8).when(0, 6, 8)
-                .clause().wild().bang().wild().gives(8).compile();
-        b.heap(Bench.thunk(2), Bench.bottom());
-        b.run("an error after guards", RES_BOTTOM, 0, 1);
-        b.outcome("an error after guards", 1, -1, -1, -1);
-        b.log("an error after guards", 0, 1);
     }
 
     /** Eight clauses, clause k for the tag 7 - k, where the last one takes what it is given. */
