@@ -520,12 +520,17 @@ public final class ProgramTest {
 
     private static void compileChangesNothingElse() {
         Checks.sentence("7: nothing else changes; the current clause stays");
-        LazyPatMatch x = ofArity(1);
+        LazyPatMatch x = compiled(1);
         x.cell(LazyPatMatch.CELL_THUNK, 5, 0, 0);
-        new Writer(x).clause().wild().gives(8).clause().con(4).var(2).when(2, 1, 2).gives(9);
-        info(x, "written", 2, 3, 3, 0, 1, 0, 4, 2);
+        x.cell(LazyPatMatch.CELL_IND, 0, 0, 0);
+        Checks.due("run of a former program", x.run(0, 1, 0, 0), LazyPatMatch.RES_VALUE);
+        x.resetProgram();
         String outcome = Snapshot.outcome(x);
         String heap = Snapshot.heap(x);
+        new Writer(x).clause().wild().gives(8).clause().con(4).var(2).when(2, 1, 2).gives(9);
+        info(x, "written", 2, 3, 3, 0, 1, 0, 4, 2);
+        Snapshot.same("writing a program", outcome, Snapshot.outcome(x));
+        Snapshot.same("writing a program", heap, Snapshot.heap(x));
         new Writer(x).compile();
         info(x, "compiled", 2, 3, 3, 1, 1, 0, 4, 2);
         Snapshot.same("compile", outcome, Snapshot.outcome(x));
