@@ -42,6 +42,7 @@ public final class FaceTest {
         Checks.due("nested classes", face.getDeclaredClasses().length, 0);
         Constructor<?>[] constructors = face.getDeclaredConstructors();
         Checks.due("constructors", constructors.length, 1);
+        Checks.due("the constructor is public", constructors[0].getModifiers(), Modifier.PUBLIC);
         Checks.due("constructor", parameters(constructors[0].getParameterTypes()).equals("(int, int)") ? 1 : 0, 1);
     }
 
@@ -52,6 +53,7 @@ public final class FaceTest {
                 found.add(field.getName() + "=" + field.getInt(null));
                 Checks.due(field.getName() + " is public static final",
                         field.getModifiers(), Modifier.PUBLIC | Modifier.STATIC | Modifier.FINAL);
+                Checks.due(field.getName() + " is an int", field.getType() == int.class ? 1 : 0, 1);
             }
         }
         sameList("constants", found, CONSTANTS);

@@ -14,6 +14,7 @@ public final class ModelTest {
     private Model model;
     private LazyPatMatch x;
     private LazyPatMatch turned;
+    private int[] tags;
     private final StringBuilder story = new StringBuilder();
 
     public static void main(String[] args) {
@@ -46,7 +47,21 @@ public final class ModelTest {
         return wrong[draw(wrong.length)];
     }
 
+    /** Few tags in one object, so that patterns meet cells that match them, and deep ones too. */
+    private static int[] drawTags() {
+        int[] drawn = new int[1 + draw(4)];
+        for (int i = 0; i < drawn.length; i++) {
+            drawn[i] = i == 0 ? 4 + draw(4) : draw(8);
+        }
+        return drawn;
+    }
+
+    private int aboutTag() {
+        return chance(10) ? about(7) : tags[draw(tags.length)];
+    }
+
     private void play() {
+        tags = drawTags();
         int arity = draw(5);
         int cells = draw(3) == 0 ? 8 + draw(26) : draw(40);
         story.append("new(" + arity + ", " + cells + ")");
@@ -97,7 +112,7 @@ public final class ModelTest {
             count++;
         }
         int kind = chance(50) ? LazyPatMatch.CELL_THUNK : about(3);
-        int tag = about(7);
+        int tag = aboutTag();
         int a = about(count);
         int b = about(count);
         answer("cell(" + kind + ", " + tag + ", " + a + ", " + b + ")", model.cell(kind, tag, a, b),
@@ -128,7 +143,7 @@ public final class ModelTest {
     private boolean pat() {
         boolean deep = model.progInfo(LazyPatMatch.PI_OPEN) > 3;
         int kind = deep ? draw(2) : chance(30) ? LazyPatMatch.P_CON : about(4);
-        int v = about(7);
+        int v = kind == LazyPatMatch.P_CON ? aboutTag() : about(7);
         boolean due = model.pat(kind, v);
         answer("pat(" + kind + ", " + v + ")", due, x.pat(kind, v), turned.pat(kind, v));
         return due;
@@ -136,7 +151,7 @@ public final class ModelTest {
 
     private void alt() {
         int gvar = chance(15) ? LazyPatMatch.NO_GUARD : chance(85) ? boundVariable() : about(7);
-        int gtag = about(7);
+        int gtag = aboutTag();
         int rhs = chance(60) ? boundVariable() : about(11);
         answer("alt(" + gvar + ", " + gtag + ", " + rhs + ")", model.alt(gvar, gtag, rhs),
                 x.alt(gvar, gtag, rhs), turned.alt(gvar, gtag, rhs));
