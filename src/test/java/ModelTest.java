@@ -71,6 +71,7 @@ public final class ModelTest {
         sameGetters();
         for (int i = 0; i < ROUNDS && Checks.allRight(); i++) {
             heap();
+            stray();
             program();
             for (int n = draw(8); n >= 0; n--) {
                 run();
